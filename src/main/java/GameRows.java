@@ -78,16 +78,35 @@ public final class GameRows {
         if (!isAmong(what, 0, 9)) {
             return BAD;
         }
-        if (what == 0) {
-            return forest.nodes;
+        if (what > 2 && isEmpty()) {
+            return EMPTY;
         }
-        if (what == 1) {
-            return forest.sets;
+        switch (what) {
+            case 0:
+                return forest.nodes;
+            case 1:
+                return forest.sets;
+            case 2:
+                return Long.bitCount(forest.nodesInTree());
+            case 3:
+                return forest.plansOf(0);
+            case 4:
+                return forest.plansOf(1);
+            case 5:
+                points.find(false);
+                return points.howMany(false);
+            case 6:
+                points.find(true);
+                return points.howMany(true);
+            case 7:
+                return Long.bitCount(forest.gamesWithin());
+            case 8:
+                table.fillWhole();
+                leaving.playAll();
+                return leaving.pairsLeft();
+            default:
+                return forest.depthOfTree();
         }
-        if (what == 2) {
-            return Long.bitCount(forest.nodesInTree());
-        }
-        return isEmpty() ? EMPTY : countInTree(what);
     }
 
     public int told(int node, int what) {
@@ -143,6 +162,7 @@ public final class GameRows {
         if (isEmpty()) {
             return EMPTY;
         }
+        points.find(perfect);
         return points.pointAt(perfect, k);
     }
 
@@ -174,6 +194,8 @@ public final class GameRows {
         if (!isPlan(player, plan)) {
             return BAD;
         }
+        table.fillWhole();
+        leaving.playAll();
         return leaving.roundOf(player, plan);
     }
 
@@ -202,6 +224,8 @@ public final class GameRows {
         if (!isAmong(rounds, 1, MOST_ANSWERING) || !isPlan(player, plan)) {
             return BAD;
         }
+        table.fillWhole();
+        answering.playTo(rounds);
         return answering.timesTaken(rounds, player, plan);
     }
 
@@ -209,26 +233,9 @@ public final class GameRows {
         if (isEmpty() || !isAmong(rounds, 1, MOST_ANSWERING) || !isAmong(what, 0, 1)) {
             return EMPTY;
         }
+        table.fillWhole();
+        answering.playTo(rounds);
         return what == 0 ? answering.lowBehind(rounds) : answering.highBehind(rounds);
-    }
-
-    private int countInTree(int what) {
-        switch (what) {
-            case 3:
-                return forest.plansOf(0);
-            case 4:
-                return forest.plansOf(1);
-            case 5:
-                return points.howMany(false);
-            case 6:
-                return points.howMany(true);
-            case 7:
-                return Long.bitCount(forest.gamesWithin());
-            case 8:
-                return leaving.pairsLeft();
-            default:
-                return forest.depthOfTree();
-        }
     }
 
     private boolean isEmpty() {
@@ -253,6 +260,11 @@ public final class GameRows {
 
     private static boolean hasBit(long bits, int i) {
         return (bits >>> i & 1L) != 0;
+    }
+
+    /** For n of 1 .. 64. */
+    private static long firstBits(int n) {
+        return -1L >>> Long.SIZE - n;
     }
 
     /** The place of the bit that has k set ones below it, or NONE. */
@@ -281,6 +293,7 @@ public final class GameRows {
         final int[] actsOf = new int[MOST_SETS];
         private final int[] worths = new int[PLAYERS * MOST_NODES];
         private final int[] children = new int[MOST_CHILDREN * MOST_NODES];
+        final int[] sizes = new int[MOST_NODES];
         private final int[] depthsBelow = new int[MOST_NODES];
         private final int[] chancesBelow = new int[MOST_NODES];
         private final long[] nodesFrom = new long[MOST_NODES];
@@ -398,6 +411,7 @@ public final class GameRows {
             int added = nodes;
             sorts[added] = sort;
             setOf[added] = set;
+            sizes[added] = 0;
             parents[added] = NONE;
             nodesFrom[added] = 1L << added;
             if (set != NONE) {
@@ -412,6 +426,7 @@ public final class GameRows {
         }
 
         private void adoptOffered(int added, int size) {
+            sizes[added] = size;
             for (int i = 0; i < size; i++) {
                 children[MOST_CHILDREN * added + i] = offered[i];
                 parents[offered[i]] = added;
@@ -433,16 +448,6 @@ public final class GameRows {
 
         int childAt(int node, int i) {
             return children[MOST_CHILDREN * node + i];
-        }
-
-        int childrenOf(int node) {
-            int found = 0;
-            for (int i = 0; i < MOST_CHILDREN; i++) {
-                if (childAt(node, i) != NONE) {
-                    found++;
-                }
-            }
-            return found;
         }
 
         /** NONE without NODES. */
@@ -476,14 +481,18 @@ public final class GameRows {
             return plans;
         }
 
-        private boolean isPlayedBy(int player, int set) {
-            return ownerOf[set] == player && hasBit(setsInTree(), set);
+        int plansFrom(int start, int player) {
+            return plansWith(player, setsFrom[start]);
+        }
+
+        private boolean isPlayedFrom(int start, int player, int set) {
+            return ownerOf[set] == player && hasBit(setsFrom[start], set);
         }
 
         int actNamed(int player, int plan, int set) {
             int rest = plan;
             for (int s = sets - 1; s >= 0; s--) {
-                if (isPlayedBy(player, s) && actsOf[s] > 0) {
+                if (isPlayedFrom(root(), player, s) && actsOf[s] > 0) {
                     if (s == set) {
                         return rest % actsOf[s];
                     }
@@ -493,13 +502,32 @@ public final class GameRows {
             return NONE;
         }
 
-        /** Writes what a PLAN names into a row with a place for each SET; leaves the other places as they are. */
-        void nameActs(int player, int plan, int[] row) {
+        /** The number of a PLAN, as far as its SETS are there, among those of the game that begins at a NODE. */
+        int planFrom(int start, int player, int plan) {
             int rest = plan;
+            int inner = 0;
+            int weight = 1;
             for (int s = sets - 1; s >= 0; s--) {
-                if (isPlayedBy(player, s) && actsOf[s] > 0) {
-                    row[s] = rest % actsOf[s];
+                if (isPlayedFrom(root(), player, s) && actsOf[s] > 0) {
+                    if (hasBit(setsFrom[start], s)) {
+                        inner += rest % actsOf[s] * weight;
+                        weight *= actsOf[s];
+                    }
                     rest /= actsOf[s];
+                }
+            }
+            return inner;
+        }
+
+        /** The next PLAN in a row with a place for each SET; behind the last one comes the first one again. */
+        void stepPlan(int start, int player, int[] row) {
+            for (int s = sets - 1; s >= 0; s--) {
+                if (isPlayedFrom(start, player, s)) {
+                    row[s]++;
+                    if (row[s] < actsOf[s]) {
+                        return;
+                    }
+                    row[s] = 0;
                 }
             }
         }
@@ -530,7 +558,7 @@ public final class GameRows {
 
         boolean remembersAll(int player) {
             for (int s = 0; s < sets; s++) {
-                if (isPlayedBy(player, s) && !areWaysAlike(player, s)) {
+                if (ownerOf[s] == player && !areWaysAlike(player, s)) {
                     return false;
                 }
             }
@@ -539,14 +567,14 @@ public final class GameRows {
 
         private boolean areWaysAlike(int player, int set) {
             long there = nodesOf[set] & nodesInTree();
-            long first = NONE;
+            long before = NONE;
             for (int n = 0; n < nodes; n++) {
                 if (hasBit(there, n)) {
                     long way = wayTo(player, n);
-                    if (first != NONE && way != first) {
+                    if (before != NONE && way != before) {
                         return false;
                     }
-                    first = way;
+                    before = way;
                 }
             }
             return true;
@@ -569,17 +597,17 @@ public final class GameRows {
         }
 
         private int actTo(int above, int below) {
-            int taken = 0;
-            for (int i = 0; i < MOST_CHILDREN; i++) {
+            int found = 0;
+            for (int i = 0; i < sizes[above]; i++) {
                 if (childAt(above, i) == below) {
-                    taken = i;
+                    found = i;
                 }
             }
-            return taken;
+            return found;
         }
     }
 
-    /** The WORTHS of all pairs of PLANS in the game that begins at a NODE of THE TREE. */
+    /** The WORTHS of all pairs of PLANS in the game that begins at a NODE: of the SETS there alone. */
     private static final class Table {
         final int[] plans = new int[PLAYERS];
         private final Forest forest;
@@ -603,14 +631,15 @@ public final class GameRows {
             }
             madeFor = forest.version;
             madeFrom = start;
-            plans[0] = forest.plansOf(0);
-            plans[1] = forest.plansOf(1);
+            plans[0] = forest.plansFrom(start, 0);
+            plans[1] = forest.plansFrom(start, 1);
+            Arrays.fill(acts, 0);
             for (int p = 0; p < plans[0]; p++) {
-                forest.nameActs(0, p, acts);
                 for (int q = 0; q < plans[1]; q++) {
-                    forest.nameActs(1, q, acts);
                     weighPair(start, MOST_PLANS * p + q);
+                    forest.stepPlan(start, 1, acts);
                 }
+                forest.stepPlan(start, 0, acts);
             }
         }
 
@@ -638,7 +667,7 @@ public final class GameRows {
         }
 
         private void shareAmongAll(int chance, int share) {
-            int size = forest.childrenOf(chance);
+            int size = forest.sizes[chance];
             for (int i = 0; i < size; i++) {
                 shares[forest.childAt(chance, i)] = share / size;
             }
@@ -650,7 +679,7 @@ public final class GameRows {
 
         /** What a PLAYER'S own PLAN is worth for that PLAYER against one of the other PLAYER. */
         int value(int player, int own, int other) {
-            return player == 0 ? valueOfPair(0, own, other) : valueOfPair(1, other, own);
+            return player == 0 ? worths[0][MOST_PLANS * own + other] : worths[1][MOST_PLANS * other + own];
         }
 
         int bestAgainst(int player, int other) {
@@ -679,13 +708,8 @@ public final class GameRows {
             return least;
         }
 
-        /** All PLANS of a PLAYER as bits. */
-        long allOf(int player) {
-            return -1L >>> Long.SIZE - plans[player];
-        }
-
         int leastBetter(int player, int plan) {
-            return leastBetterAmong(player, plan, allOf(player), allOf(otherThan(player)));
+            return leastBetterAmong(player, plan, firstBits(plans[player]), firstBits(plans[otherThan(player)]));
         }
 
         int leastBetterAmong(int player, int plan, long own, long others) {
@@ -749,89 +773,93 @@ public final class GameRows {
         }
     }
 
-    /** POINTS, a row of bits (PLANS of PLAYER 1) for each PLAN of PLAYER 0. */
+    /** POINTS, and PERFECT ones: a row of bits (PLANS of PLAYER 1) for each PLAN of PLAYER 0. */
     private static final class Points {
         private final Forest forest;
         private final Table table;
-        private final long[] plain = new long[MOST_PLANS];
-        private final long[] perfect = new long[MOST_PLANS];
+        private final long[][] rows = new long[2][MOST_PLANS];
+        private final int[] madeFor = {NONE, NONE};
+        // What the best answer to each PLAN of the other one is worth, in the game that is looked at.
         private final int[][] best = new int[PLAYERS][MOST_PLANS];
-        private int plainFor = NONE;
-        private int perfectFor = NONE;
+        // What each PLAN of THE TREE is in that game.
+        private final int[][] inner = new int[PLAYERS][MOST_PLANS];
 
         Points(Forest forest, Table table) {
             this.forest = forest;
             this.table = table;
         }
 
-        int howMany(boolean perfectOnes) {
-            long[] rows = found(perfectOnes);
+        /** POINTS are those of THE TREE alone, PERFECT ones those of all GAMES WITHIN. */
+        void find(boolean perfect) {
+            int place = placeOf(perfect);
+            if (madeFor[place] == forest.version) {
+                return;
+            }
+            madeFor[place] = forest.version;
+            Arrays.fill(rows[place], firstBits(forest.plansOf(1)));
+            long starts = perfect ? forest.gamesWithin() : 1L << forest.root();
+            // THE ROOT comes last, so that the table is left as that of THE TREE.
+            for (int n = 0; n < forest.nodes; n++) {
+                if (hasBit(starts, n)) {
+                    keepPoints(n, rows[place]);
+                }
+            }
+        }
+
+        private static int placeOf(boolean perfect) {
+            return perfect ? 1 : 0;
+        }
+
+        int howMany(boolean perfect) {
+            long[] found = rows[placeOf(perfect)];
+            int plans = forest.plansOf(0);
             int sum = 0;
-            for (int p = 0; p < table.plans[0]; p++) {
-                sum += Long.bitCount(rows[p]);
+            for (int p = 0; p < plans; p++) {
+                sum += Long.bitCount(found[p]);
             }
             return sum;
         }
 
-        int pointAt(boolean perfectOnes, int k) {
-            long[] rows = found(perfectOnes);
+        int pointAt(boolean perfect, int k) {
+            long[] found = rows[placeOf(perfect)];
+            int plans = forest.plansOf(0);
             int rest = k;
-            for (int p = 0; p < table.plans[0] && rest >= 0; p++) {
-                int inRow = Long.bitCount(rows[p]);
+            for (int p = 0; p < plans && rest >= 0; p++) {
+                int inRow = Long.bitCount(found[p]);
                 if (rest < inRow) {
-                    return MOST_PLANS * p + bitAt(rows[p], rest);
+                    return MOST_PLANS * p + bitAt(found[p], rest);
                 }
                 rest -= inRow;
             }
             return NONE;
         }
 
-        private long[] found(boolean perfectOnes) {
-            if (perfectOnes) {
-                findPerfect();
-                return perfect;
-            }
-            findPlain();
-            return plain;
-        }
-
-        private void findPlain() {
-            if (plainFor != forest.version) {
-                plainFor = forest.version;
-                Arrays.fill(plain, -1L);
-                table.fillWhole();
-                keepPoints(plain);
-            }
-        }
-
-        private void findPerfect() {
-            if (perfectFor != forest.version) {
-                perfectFor = forest.version;
-                Arrays.fill(perfect, -1L);
-                long starts = forest.gamesWithin();
-                // THE ROOT is the last one, so the table is left as that of THE TREE.
-                for (int n = 0; n < MOST_NODES; n++) {
-                    if (hasBit(starts, n)) {
-                        table.fillFrom(n);
-                        keepPoints(perfect);
-                    }
-                }
-            }
-        }
-
-        /** Leaves of the pairs in the rows those that are POINTS of the game in the table. */
-        private void keepPoints(long[] rows) {
+        /** Leaves of the pairs that are kept those that are POINTS in the game that begins at a NODE. */
+        private void keepPoints(int start, long[] kept) {
+            table.fillFrom(start);
+            int plans0 = findInner(0, start);
+            int plans1 = findInner(1, start);
             findBest(0);
             findBest(1);
-            for (int p = 0; p < table.plans[0]; p++) {
-                long there = 0L;
-                for (int q = 0; q < table.plans[1]; q++) {
-                    if (table.value(0, p, q) == best[0][q] && table.value(1, q, p) == best[1][p]) {
-                        there |= 1L << q;
+            for (int p = 0; p < plans0; p++) {
+                for (int q = 0; q < plans1; q++) {
+                    if (hasBit(kept[p], q) && !isPoint(inner[0][p], inner[1][q])) {
+                        kept[p] &= ~(1L << q);
                     }
                 }
-                rows[p] &= there;
             }
+        }
+
+        private int findInner(int player, int start) {
+            int plans = forest.plansOf(player);
+            for (int plan = 0; plan < plans; plan++) {
+                inner[player][plan] = forest.planFrom(start, player, plan);
+            }
+            return plans;
+        }
+
+        private boolean isPoint(int p, int q) {
+            return table.value(0, p, q) == best[0][q] && table.value(1, q, p) == best[1][p];
         }
 
         private void findBest(int player) {
@@ -855,24 +883,21 @@ public final class GameRows {
         }
 
         int roundOf(int player, int plan) {
-            playAll();
             return goneIn[player][plan];
         }
 
         int pairsLeft() {
-            playAll();
             return Long.bitCount(left[0]) * Long.bitCount(left[1]);
         }
 
-        private void playAll() {
+        void playAll() {
             if (madeFor == forest.version) {
                 return;
             }
             madeFor = forest.version;
-            table.fillWhole();
             for (int player = 0; player < PLAYERS; player++) {
                 Arrays.fill(goneIn[player], NONE);
-                left[player] = table.allOf(player);
+                left[player] = firstBits(table.plans[player]);
             }
             // Each round but the last takes a PLAN at least.
             for (int round = 1; round <= PLAYERS * MOST_PLANS; round++) {
@@ -923,7 +948,6 @@ public final class GameRows {
         }
 
         int timesTaken(int rounds, int player, int plan) {
-            playTo(rounds);
             int times = 0;
             for (int r = 0; r < rounds; r++) {
                 if (picks[player][r] == plan) {
@@ -934,7 +958,6 @@ public final class GameRows {
         }
 
         int lowBehind(int rounds) {
-            playTo(rounds);
             int low = sumAgainst(0, rounds);
             for (int other = 1; other < table.plans[1]; other++) {
                 low = Math.min(low, sumAgainst(other, rounds));
@@ -943,7 +966,6 @@ public final class GameRows {
         }
 
         int highBehind(int rounds) {
-            playTo(rounds);
             int high = sumFor(0, rounds);
             for (int own = 1; own < table.plans[0]; own++) {
                 high = Math.max(high, sumFor(own, rounds));
@@ -967,8 +989,7 @@ public final class GameRows {
             return sum;
         }
 
-        private void playTo(int rounds) {
-            table.fillWhole();
+        void playTo(int rounds) {
             if (madeFor != forest.version) {
                 madeFor = forest.version;
                 played = 0;

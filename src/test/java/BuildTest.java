@@ -181,7 +181,11 @@ public final class BuildTest {
         check.same("first taken", g.chance(3, 5, -1), GameRows.TAKEN);
         check.same("second taken", g.chance(5, 4, -1), GameRows.TAKEN);
         check.same("third taken", g.chance(5, 7, 6), GameRows.TAKEN);
+        g.set(0, 2);
+        g.set(1, 3);
         check.same("of chances", g.chance(8, 9, 10), 11);
+        check.same("no sets in it, plans of 0", g.count(3), 1);
+        check.same("no sets in it, plans of 1", g.count(4), 1);
         check.same("nodes in the tree", g.count(2), 10);
         check.same("worth of chances", g.worth(0, 0, 0), 7776 / 3 + 7776 / 3 + 13 * 7776 / 9);
     }
@@ -416,6 +420,9 @@ public final class BuildTest {
         check.same("widest plans of 0", wide.count(3), 64);
         check.same("widest plans of 1", wide.count(4), 54);
         check.same("widest games within", wide.count(7), 11);
+        for (int what = 0; what <= 9; what++) {
+            check.same("as the first question, count " + what, Games.entry().count(what), due[what]);
+        }
         GameRows pennies = Games.pennies();
         check.same("pennies points", pennies.count(5), 0);
         check.same("pennies perfect points", pennies.count(6), 0);

@@ -19,6 +19,7 @@ public final class GameRows {
     private static final int MOST_WORTH = 100;
     private static final int MOST_ANSWERING = 200;
     private static final int PLAYERS = 2;
+    private static final int BITS = 64;
 
     // 6 to the 5: any 5 CHANCES of 1 .. 3 CHILDREN on a way divide it without a rest.
     private static final int PARTS = 7776;
@@ -264,13 +265,13 @@ public final class GameRows {
 
     /** For n of 1 .. 64. */
     private static long firstBits(int n) {
-        return -1L >>> Long.SIZE - n;
+        return -1L >>> BITS - n;
     }
 
     /** The place of the bit that has k set ones below it, or NONE. */
     private static int bitAt(long bits, int k) {
         int before = 0;
-        for (int i = 0; i < Long.SIZE; i++) {
+        for (int i = 0; i < BITS; i++) {
             if (hasBit(bits, i)) {
                 if (before == k) {
                     return i;

@@ -107,11 +107,12 @@ public final class FaceTest {
         while (imports.find()) {
             check.holds("import " + imports.group(1), imports.group(1).equals("java.util.Arrays"));
         }
-        for (String line : source.split("\n")) {
-            for (char c : line.toCharArray()) {
-                check.holds("a character beyond 255", c <= 255);
-            }
+        Matcher library = Pattern.compile("\\b(Integer|Long|Math|Arrays|System|String|StringBuilder|List|ArrayList)\\b\\.?(\\w*)").matcher(code);
+        while (library.find()) {
+            check.holds(library.group() + " stands in rule 4",
+                Set.of("Arrays", "Arrays.fill", "Long.bitCount", "Math.max", "Math.min").contains(library.group()));
         }
+        check.holds("no character beyond 255", source.chars().allMatch(c -> c <= 255));
         int open = -1;
         String[] lines = source.split("\n");
         for (int i = 0; i < lines.length; i++) {

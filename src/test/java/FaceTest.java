@@ -5,7 +5,9 @@ import java.lang.reflect.Method;
 import java.lang.reflect.Modifier;
 import java.nio.file.Files;
 import java.nio.file.Path;
+import java.util.Map;
 import java.util.Set;
+import java.util.TreeMap;
 import java.util.TreeSet;
 import java.util.regex.Matcher;
 import java.util.regex.Pattern;
@@ -19,10 +21,10 @@ public final class FaceTest {
         "told(int,int)", "act(int,int,int)", "worth(int,int,int)", "answer(int,int)", "point(boolean,int)",
         "within(int)", "than(int,int,int)", "goes(int,int)", "sure(int)", "remembered(int)", "taken(int,int,int)",
         "bound(int,int)"));
-    private static final Set<String> CONSTANTS = new TreeSet<>(Set.of(
-        "NONE", "BAD", "FULL", "TAKEN", "DEEP", "WRONG", "EMPTY"));
+    private static final Map<String, Integer> CONSTANTS = new TreeMap<>(Map.of(
+        "NONE", -1, "BAD", -2, "FULL", -3, "TAKEN", -4, "DEEP", -5, "WRONG", -6, "EMPTY", -1000000));
 
-    public static void main(String[] args) throws IOException {
+    public static void main(String[] args) throws IOException, IllegalAccessException {
         methods();
         constants();
         check.holds("final", Modifier.isFinal(GameRows.class.getModifiers()));
@@ -70,19 +72,19 @@ public final class FaceTest {
         return Modifier.isPublic(modifiers) || Modifier.isPrivate(modifiers);
     }
 
-    private static void constants() {
-        Set<String> seen = new TreeSet<>();
+    private static void constants() throws IllegalAccessException {
+        Map<String, Integer> seen = new TreeMap<>();
         int own = 0;
         for (Field f : GameRows.class.getDeclaredFields()) {
             check.holds(f.getName() + " is public or private", isPublicOrPrivate(f.getModifiers()));
             if (Modifier.isPublic(f.getModifiers())) {
-                seen.add(f.getName());
                 check.holds(f.getName() + " is an int for good", f.getType() == int.class
                     && Modifier.isStatic(f.getModifiers()) && Modifier.isFinal(f.getModifiers()));
+                seen.put(f.getName(), f.getInt(null));
             }
             own += Modifier.isStatic(f.getModifiers()) ? 0 : 1;
         }
-        check.holds("the constants are " + CONSTANTS, seen.equals(CONSTANTS));
+        check.holds("the constants are " + CONSTANTS + ", not " + seen, seen.equals(CONSTANTS));
         check.holds("some twenty fields", own <= 20);
     }
 

@@ -2,6 +2,8 @@ import java.util.ArrayList;
 import java.util.Collections;
 import java.util.List;
 import java.util.Random;
+import java.util.function.Supplier;
+import java.util.function.ToIntFunction;
 
 /** Runs of calls by fixed seeds, each answer held against PlainGame: all promises, good and bad numbers. */
 public final class RandomRunsTest {
@@ -156,16 +158,16 @@ public final class RandomRunsTest {
         }
     }
 
-    /** A game of some height, put in without refusals, and then asked for everything. */
+    /** A game of some height, put in by chance, and then asked for everything. */
     private static void builtGame(int seed) {
         Random random = new Random(1000 + seed);
-        GameRows g = new GameRows();
+        List<ToIntFunction<GameRows>> made = new ArrayList<>();
         PlainGame p = new PlainGame();
         int sets = 2 + random.nextInt(9);
         for (int s = 0; s < sets; s++) {
             int player = s < 2 ? s : random.nextInt(2);
             int acts = 2 + (random.nextInt(3) == 0 ? 1 : 0);
-            g.set(player, acts);
+            made.add(g -> g.set(player, acts));
             p.set(player, acts);
         }
         int worths = seed % 2 == 0 ? 2 : 30;
@@ -173,21 +175,30 @@ public final class RandomRunsTest {
         for (int i = 0; i < ends; i++) {
             int a = random.nextInt(2 * worths + 1) - worths;
             int b = seed % 4 < 2 ? -a : random.nextInt(2 * worths + 1) - worths;
-            g.end(a, b);
+            made.add(g -> g.end(a, b));
             p.end(a, b);
         }
+        GameRows first = put(made);
         for (int i = 0; i < 200; i++) {
-            joinSome(random, g, p, "game " + seed + " call " + i);
+            joinSome(random, first, p, made, "game " + seed + " call " + i);
         }
         check.holds("game " + seed + " has no end at last", p.told(p.count(0) - 1, 0) != 0);
         for (int i = 0; i < 6; i++) {
             met[i] += isMet(i, p) ? 1 : 0;
         }
-        askAll(g, p, "game " + seed);
+        askAll(() -> put(made), p, "game " + seed);
     }
 
-    /** One to three of the NODES without a parent below a new one. */
-    private static void joinSome(Random random, GameRows g, PlainGame p, String at) {
+    private static GameRows put(List<ToIntFunction<GameRows>> made) {
+        GameRows g = new GameRows();
+        for (ToIntFunction<GameRows> call : made) {
+            call.applyAsInt(g);
+        }
+        return g;
+    }
+
+    /** One to three of the NODES without a parent below a new one, if they are not refused. */
+    private static void joinSome(Random random, GameRows g, PlainGame p, List<ToIntFunction<GameRows>> made, String at) {
         List<Integer> free = new ArrayList<>();
         for (int n = 0; n < p.count(0); n++) {
             if (p.told(n, 2) == -1) {
@@ -197,13 +208,20 @@ public final class RandomRunsTest {
         Collections.shuffle(free, random);
         int a = free.get(0);
         int b = free.size() > 1 ? free.get(1) : -1;
-        int c = free.size() > 2 ? free.get(2) : -1;
+        int third = free.size() > 2 ? free.get(2) : -1;
+        int nodes = p.count(0);
+        ToIntFunction<GameRows> call;
         if (random.nextInt(5) == 0) {
-            c = random.nextBoolean() ? -1 : c;
-            same(at + " chance", g.chance(a, b, c), p.chance(a, b, c));
+            int c = random.nextBoolean() ? -1 : third;
+            call = h -> h.chance(a, b, c);
+            same(at + " chance", call.applyAsInt(g), p.chance(a, b, c));
         } else {
             int set = random.nextInt(p.count(1));
-            same(at + " node", g.node(set, a, b, c), p.node(set, a, b, c));
+            call = h -> h.node(set, a, b, third);
+            same(at + " node", call.applyAsInt(g), p.node(set, a, b, third));
+        }
+        if (p.count(0) > nodes) {
+            made.add(call);
         }
     }
 
@@ -225,7 +243,9 @@ public final class RandomRunsTest {
         }
     }
 
-    private static void askAll(GameRows g, PlainGame p, String at) {
+    /** A new object for each part: one is used for 512 calls at most. */
+    private static void askAll(Supplier<GameRows> made, PlainGame p, String at) {
+        GameRows g = made.get();
         for (int what = 0; what <= 9; what++) {
             same(at + " count " + what, g.count(what), p.count(what));
         }
@@ -234,21 +254,25 @@ public final class RandomRunsTest {
             same(at + " perfect point " + k, g.point(true, k), p.point(true, k));
             same(at + " within " + k, g.within(k), p.within(k));
         }
-        for (int player = 0; player < 2; player++) {
-            same(at + " sure " + player, g.sure(player), p.sure(player));
-            same(at + " remembered " + player, g.remembered(player), p.remembered(player));
-            for (int plan = 0; plan < p.count(3 + player); plan++) {
-                same(at + " goes " + plan, g.goes(player, plan), p.goes(player, plan));
-                for (int what = 0; what < 3; what++) {
-                    same(at + " than " + plan + " " + what, g.than(player, plan, what), p.than(player, plan, what));
-                }
-                same(at + " taken", g.taken(50, player, plan), p.taken(50, player, plan));
-                same(at + " answer", g.answer(1 - player, plan), p.answer(1 - player, plan));
-            }
-        }
         for (int rounds : new int[] {1, 2, 3, 200, 17}) {
             same(at + " low " + rounds, g.bound(rounds, 0), p.bound(rounds, 0));
             same(at + " high " + rounds, g.bound(rounds, 1), p.bound(rounds, 1));
+        }
+        for (int player = 0; player < 2; player++) {
+            askPlans(made.get(), p, player, at);
+        }
+    }
+
+    private static void askPlans(GameRows g, PlainGame p, int player, String at) {
+        same(at + " sure " + player, g.sure(player), p.sure(player));
+        same(at + " remembered " + player, g.remembered(player), p.remembered(player));
+        for (int plan = 0; plan < p.count(3 + player); plan++) {
+            same(at + " goes " + plan, g.goes(player, plan), p.goes(player, plan));
+            for (int what = 0; what < 3; what++) {
+                same(at + " than " + plan + " " + what, g.than(player, plan, what), p.than(player, plan, what));
+            }
+            same(at + " taken", g.taken(50, player, plan), p.taken(50, player, plan));
+            same(at + " answer", g.answer(1 - player, plan), p.answer(1 - player, plan));
         }
     }
 }

@@ -1,36 +1,46 @@
 import java.lang.management.ManagementFactory;
 
-/** What objects and calls take: rows are made by the constructor alone, and the dearest games end soon. */
+/** What objects and calls take: rows are made by the constructor alone, and the fullest games agree with PlainGame. */
 public final class RoomTest {
     // 7.3 million elements for a run; were each of 512 calls a new object, so many bytes each would be left.
     private static final long MOST_BYTES_MADE = 57_000;
+    private static final int ROUNDS = 13;
     private static final Check check = new Check("RoomTest");
     private static final com.sun.management.ThreadMXBean BEAN =
         (com.sun.management.ThreadMXBean) ManagementFactory.getThreadMXBean();
 
     public static void main(String[] args) {
-        GameRows warm = Games.widest();
-        askAll(warm);
-        dearestAgree(warm);
-
-        long before = bytes();
-        GameRows g = new GameRows();
-        check.holds("the constructor takes little", bytes() - before < MOST_BYTES_MADE);
-        g.end(0, 0);
-
-        GameRows wide = Games.widest();
-        long start = bytes();
-        long sum = 0;
         for (int i = 0; i < 100; i++) {
-            sum += askAll(wide);
+            askAll(Games.fullest(i % 2));
         }
-        long used = bytes() - start;
-        check.holds("1400 calls make nothing, not " + used + " bytes (" + sum + ")", used < 2000);
+        objectTakesLittle();
+        callsMakeNothing();
+        fullestAgree(0);
+        fullestAgree(1);
         check.close();
     }
 
     private static long bytes() {
         return BEAN.getThreadAllocatedBytes(Thread.currentThread().getId());
+    }
+
+    private static void objectTakesLittle() {
+        long before = bytes();
+        GameRows g = new GameRows();
+        long used = bytes() - before;
+        check.holds("the constructor takes little, not " + used + " bytes", used < MOST_BYTES_MADE);
+        g.end(0, 0);
+    }
+
+    private static void callsMakeNothing() {
+        GameRows g = Games.fullest(0);
+        long before = bytes();
+        long sum = 0;
+        for (int i = 0; i < ROUNDS; i++) {
+            sum += askAll(g);
+        }
+        long used = bytes() - before;
+        check.holds("calls make nothing, not " + used + " bytes (" + sum + ")", used < 2000);
     }
 
     private static long askAll(GameRows g) {
@@ -43,28 +53,31 @@ public final class RoomTest {
         return sum + g.remembered(0) + g.taken(200, 0, 3) + g.bound(200, 0) + g.bound(200, 1);
     }
 
-    /** The widest game once more in PlainGame: 3456 pairs, 11 GAMES WITHIN. */
-    private static void dearestAgree(GameRows g) {
+    /** 3456 pairs, 10 GAMES WITHIN. */
+    private static void fullestAgree(int most) {
+        GameRows told = Games.fullest(most);
         PlainGame p = new PlainGame();
         for (int s = 0; s < 10; s++) {
-            p.set(s < 6 ? 0 : 1, s < 7 ? 2 : 3);
+            p.set(s < 6 ? most : 1 - most, s < 7 ? 2 : 3);
         }
-        for (int n = 0; n < g.count(0); n++) {
-            copyNode(g, p, n);
+        for (int n = 0; n < 40; n++) {
+            copyNode(told, p, n);
         }
+        GameRows g = Games.fullest(most);
         for (int what = 0; what < 10; what++) {
-            check.same("widest count " + what, g.count(what), p.count(what));
+            check.same("fullest count " + what, g.count(what), p.count(what));
         }
         for (int plan = 0; plan < 54; plan++) {
-            check.same("widest goes " + plan, g.goes(1, plan), p.goes(1, plan));
-            check.same("widest taken " + plan, g.taken(200, 1, plan), p.taken(200, 1, plan));
-            check.same("widest weakly " + plan, g.than(0, plan, 1), p.than(0, plan, 1));
-            check.same("widest one " + plan, g.than(0, plan, 2), p.than(0, plan, 2));
-            check.same("widest worth " + plan, g.worth(plan, plan, 0), p.worth(plan, plan, 0));
+            check.same("fullest goes " + plan, g.goes(1, plan), p.goes(1, plan));
+            check.same("fullest taken " + plan, g.taken(200, 1, plan), p.taken(200, 1, plan));
+            check.same("fullest weakly " + plan, g.than(0, plan, 1), p.than(0, plan, 1));
+            check.same("fullest one " + plan, g.than(0, plan, 2), p.than(0, plan, 2));
+            check.same("fullest worth " + plan, g.worth(plan, plan, 0), p.worth(plan, plan, 0));
+            check.same("fullest answer " + plan, g.answer(0, plan), p.answer(0, plan));
         }
-        check.same("widest low", g.bound(200, 0), p.bound(200, 0));
-        check.same("widest high", g.bound(200, 1), p.bound(200, 1));
-        check.same("widest perfect point", g.point(true, 0), p.point(true, 0));
+        check.same("fullest low", g.bound(200, 0), p.bound(200, 0));
+        check.same("fullest high", g.bound(200, 1), p.bound(200, 1));
+        check.same("fullest perfect point", g.point(true, 0), p.point(true, 0));
     }
 
     private static void copyNode(GameRows g, PlainGame p, int n) {

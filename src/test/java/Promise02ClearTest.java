@@ -7,6 +7,7 @@ public final class Promise02ClearTest extends Promises {
         noSets();
         allAgain();
         nothingOld();
+        endsWhereOthersWere();
         close();
     }
 
@@ -88,6 +89,34 @@ public final class Promise02ClearTest extends Promises {
         due(g, told(0, 4), NONE);
         due(g, point(false, 1), 64);
         due(g, goes(1, 1), 1);
+    }
+
+    /** What lay below the NODES that had these numbers does not lie below the new ones. */
+    private static void endsWhereOthersWere() {
+        sentence("No NODES, no SETS any more");
+        GameRows five = Games.ends(1);
+        Games.chancesAbove(five, 5, 0);
+        GameRows deep = Games.deep(8);
+        GameRows wide = Games.six(0);
+        for (GameRows g : new GameRows[] {five, deep, wide}) {
+            int before = g.count(0);
+            due(g, clear(), before);
+            for (int n = 0; n < before; n++) {
+                due(g, end(0, 0), n);
+            }
+            for (int s = 0; s < 7; s++) {
+                g.set(0, 2);
+            }
+            due("over the last one", g, chance(before - 1, -1, -1), before);
+            due("over the last one", g, count(2), 2);
+            due("over the last one", g, count(3), 1);
+            due("over the last one", g, count(9), 1);
+            due("over the first ones", g, node(6, 0, 1, -1), before + 1);
+            due("over the first ones", g, count(3), 2);
+            due("over both", g, node(5, before, before + 1, -1), before + 2);
+            due("over both", g, within(1), before + 2);
+            due("over both", g, remembered(0), 1);
+        }
     }
 
     /** As Games.entry(), with PLAYERS changed: 0 and 64 are POINTS, PLAYER 1'S PLAN 1 is WORSE than 0. */

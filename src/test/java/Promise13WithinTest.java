@@ -99,6 +99,20 @@ public final class Promise13WithinTest extends Promises {
         rowOfWithin("a second tree", g, other, otherRoot);
         g.chance(4, otherRoot, -1);
         rowOfWithin("both trees", g, otherRoot + 1);
+        // NODES of THE TREE between others: 0, 2, 4, 6, 8 are in it, 1, 3, 5, 7 are not.
+        GameRows between = new GameRows();
+        between.set(0, 2);
+        between.set(1, 2);
+        for (int n = 0; n < 4; n++) {
+            between.end(n, n);
+        }
+        between.node(1, 0, 2, -1);
+        between.node(1, 1, 3, -1);
+        between.end(0, 0);
+        between.end(0, 0);
+        between.node(0, 4, 6, -1);
+        rowOfWithin("between others", between, 4, 8);
+        due("between others", between, count(2), 5);
     }
 
     private static void none() {

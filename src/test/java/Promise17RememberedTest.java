@@ -9,8 +9,9 @@ public final class Promise17RememberedTest extends Promises {
         noSets();
         ownActs();
         ownSets();
+        othersBetween();
         order();
-        waysOfTwo();
+        anyTwoWays();
         longestWays();
         anyTwoNodes();
         inTheTreeAlone();
@@ -99,38 +100,101 @@ public final class Promise17RememberedTest extends Promises {
         due("the other order", g, remembered(0), 0);
     }
 
-    /** Two NODES of SET 9, each below two others of the PLAYER, with any SETS and ACTS there. */
-    private static void waysOfTwo() {
+    /** What is no own SET may stand between the own ACT and the NODES below it. */
+    private static void othersBetween() {
+        sentence("the rows of the PLAYER'S own SETS, and ACTS taken there, on the ways to them are alike.");
+        for (int between = 0; between < 2; between++) {
+            GameRows g = new GameRows();
+            g.set(0, 2);
+            g.set(0, 2);
+            g.set(1, 2);
+            int left = lowBelow(g, between);
+            int right = lowBelow(g, between);
+            g.node(0, left, right, -1);
+            due("below another act", g, remembered(0), 0);
+            due("of the other one", g, remembered(1), 1);
+            GameRows one = new GameRows();
+            one.set(0, 2);
+            one.set(0, 2);
+            one.set(1, 2);
+            int both = one.chance(lowBelow(one, between), lowBelow(one, between), -1);
+            one.node(0, one.end(0, 0), both, -1);
+            due("below one act", one, remembered(0), 1);
+        }
+    }
+
+    /** A NODE of SET 1, below a CHANCE (0) or an ACT of SET 2 (1). */
+    private static int lowBelow(GameRows g, int between) {
+        int low = g.node(1, g.end(0, 0), g.end(0, 0), -1);
+        return between == 0 ? g.chance(low, -1, -1) : g.node(2, g.end(0, 0), low, -1);
+    }
+
+    /** Two NODES of SET 4, each below two others of the PLAYER at most: all SETS and ACTS that 64 PLANS leave. */
+    private static void anyTwoWays() {
         sentence("for any two NODES of one SET");
-        int compared = 0;
+        GameRows g = new GameRows();
+        int games = 0;
         for (int acts = 2; acts <= 3; acts++) {
-            for (int i = 0; i < 81; i++) {
-                for (int j = 0; j < 9; j++) {
-                    int[] left = {i / 27, i / 9 % 3 % acts, 3 + i / 3 % 3, i % 3 % acts};
-                    int[] right = {j / 3, j % 3 % acts, 4, 1};
-                    GameRows g = new GameRows();
-                    for (int s = 0; s < 10; s++) {
-                        g.set(0, acts);
-                    }
-                    // With 3 ACTS there are too many PLANS for two SETS more on the second way.
-                    if (g.chance(wayOfTwo(g, acts, left), wayOfTwo(g, acts, right), -1) != WRONG) {
-                        compared++;
-                        due("ways " + i + " " + j + " of " + acts, g, remembered(0), Arrays.equals(left, right) ? 1 : 0);
+            List<int[]> ways = waysOf(acts);
+            for (int i = 0; i < ways.size(); i++) {
+                for (int j = 0; j <= i; j++) {
+                    if (setsOn(ways.get(i), ways.get(j)) <= (acts == 2 ? 5 : 3)) {
+                        // 31 calls a game at most: 16 games for one object.
+                        g = games++ % 16 == 0 ? new GameRows() : g;
+                        compareWays(g, acts, ways.get(i), ways.get(j));
                     }
                 }
             }
         }
-        holds("810 ways were compared, not " + compared, compared == 810);
+        holds("many ways were compared, not " + games, games > 100_000);
     }
 
-    private static int wayOfTwo(GameRows g, int acts, int[] way) {
-        int node = g.node(9, g.end(0, 0), g.end(0, 0), acts == 3 ? g.end(0, 0) : -1);
-        for (int i = 2; i >= 0; i -= 2) {
+    /** Rows of up to two places, from the top on: 3 times a SET that is not 4, and an ACT. */
+    private static List<int[]> waysOf(int acts) {
+        List<int[]> ways = new ArrayList<>();
+        ways.add(new int[0]);
+        for (int i = 0; i < ways.size(); i++) {
+            int[] way = ways.get(i);
+            for (int place = 0; place < 30 && way.length < 2; place++) {
+                if (place / 3 != 4 && place % 3 < acts) {
+                    int[] longer = Arrays.copyOf(way, way.length + 1);
+                    longer[way.length] = place;
+                    ways.add(longer);
+                }
+            }
+        }
+        return ways;
+    }
+
+    private static int setsOn(int[] one, int[] other) {
+        int sets = 0;
+        for (int[] way : new int[][] {one, other}) {
+            for (int place : way) {
+                sets |= 1 << place / 3;
+            }
+        }
+        return Integer.bitCount(sets);
+    }
+
+    private static void compareWays(GameRows g, int acts, int[] one, int[] other) {
+        g.clear();
+        for (int s = 0; s < 10; s++) {
+            g.set(0, s == 4 ? 2 : acts);
+        }
+        g.chance(putWay(g, acts, one), putWay(g, acts, other), -1);
+        boolean isTwice = one.length == 2 && one[0] / 3 == one[1] / 3;
+        due("ways " + Arrays.toString(one) + " and " + Arrays.toString(other), g, remembered(0),
+            Arrays.equals(one, other) && !isTwice ? 1 : 0);
+    }
+
+    private static int putWay(GameRows g, int acts, int[] way) {
+        int node = g.node(4, g.end(0, 0), g.end(0, 0), -1);
+        for (int i = way.length - 1; i >= 0; i--) {
             int[] children = {-1, -1, -1};
             for (int a = 0; a < acts; a++) {
-                children[a] = a == way[i + 1] ? node : g.end(0, 0);
+                children[a] = a == way[i] % 3 ? node : g.end(0, 0);
             }
-            node = g.node(way[i], children[0], children[1], children[2]);
+            node = g.node(way[i] / 3, children[0], children[1], children[2]);
         }
         return node;
     }

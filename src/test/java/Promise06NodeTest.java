@@ -232,7 +232,14 @@ public final class Promise06NodeTest extends Promises {
             node(6, 40, 0, -1), node(6, 18, -1, -1), node(7, 0, 0, -1));
         refused(Games::brink, BAD, node(7, 18, 22, -1), node(7, 0, 22, -1), node(6, 0, 23, -1), node(6, 18, 23, -1),
             node(6, -1, 18, -1), node(-1, 18, 18, -1));
-        refused(() -> Games.towers(0), BAD, node(8, 6, 15, -1), node(7, 15, 17, -1));
+        // With NODES 13 and 14 there it would be WRONG: 128 PLANS, or 192.
+        refused(() -> {
+            GameRows g = new GameRows();
+            Games.tower(g, 1, 2, 2, 2, 2, 2, 2);
+            g.set(1, 2);
+            g.set(1, 3);
+            return g;
+        }, BAD, node(6, 12, 13, -1), node(6, 13, 12, -1), node(6, -1, 12, -1), node(7, 12, 13, 14), node(8, 12, 13, 14));
     }
 
     private static void fullBeforeTheRest() {
@@ -245,7 +252,8 @@ public final class Promise06NodeTest extends Promises {
     private static void takenBeforeTheRest() {
         sentence("TAKEN; DEEP; WRONG");
         refused(Games::brink, TAKEN, node(0, 18, 0, -1), node(6, 18, 0, -1), node(6, 18, 18, -1), node(6, 3, 18, -1));
-        refused(() -> Games.towers(0), TAKEN, node(0, 15, 5, -1), node(7, 15, 15, -1), node(7, 5, 15, -1));
+        // NODE 4 has a parent and 4 PLANS, NODE 15 has 16, SET 7 makes 128 of them.
+        refused(() -> Games.towers(0), TAKEN, node(7, 15, 4, -1), node(7, 4, 15, -1), node(0, 15, 5, -1));
     }
 
     private static void deepBeforeWrong() {
